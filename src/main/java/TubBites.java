@@ -1396,14 +1396,18 @@ public final class TubBites {
 
         int oddsOf(State s, int bobber, int apple, int kind) {
             look(s, bobber, apple);
-            return Math.max(0, Math.min(100, told.formulas.value(kind, sight)));
+            return asOdds(told.formulas.value(kind, sight));
+        }
+
+        private static int asOdds(int value) {
+            return Math.max(0, Math.min(100, value));
         }
 
         private int worthSeen(int rule, int kind) {
             if (rule == NONE) {
                 return 0;
             }
-            int odds = Math.max(0, Math.min(100, told.formulas.value(kind, sight)));
+            int odds = asOdds(told.formulas.value(kind, sight));
             sight[Formulas.KIND] = kind;
             sight[Formulas.ODDS] = odds;
             int worth = told.formulas.value(KINDS + rule, sight);
@@ -1446,7 +1450,8 @@ public final class TubBites {
         }
 
         boolean tryInEarnest(State s, int bobber, int apple, int kind) {
-            int odds = oddsOf(s, bobber, apple, kind);
+            look(s, bobber, apple);
+            int odds = asOdds(told.formulas.value(kind, sight));
             s.seed = (s.seed * 137 + 71) % 1000;
             boolean gets = s.seed / 10 < odds;
             s.seconds[bobber] += TRY_SECONDS[kind];
