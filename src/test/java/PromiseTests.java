@@ -225,6 +225,8 @@ public final class PromiseTests {
         faulty("tub 1234 by 2;", 4, "1234");
         faulty("tub 2by 2;", 1, "2by");
         faulty("tub 2 by 2;rule a 1and 1;", 1, "1and");
+        faulty("tub 2z", 1, "2z");
+        faulty("zzzzzzzzz", 1, "z".repeat(9));
         faulty("tub 2 by 2;rule a 1 & 1;", 1, "&");
         faulty("tub 2 by 2", 2, "");
         faulty("tub 2 by 2  \n", 2, "");
@@ -259,6 +261,19 @@ public final class PromiseTests {
         faulty("tub 2 by 2;rule a 1<2<3;$", 2, "<3");
         faulty("tub 9 by 2;tub $", 4, "9");
         due("words and numbers without blanks", of("tub 2 by 2;rule a not1+far*2;apple\nb at0 0 size1 soft0;").about(2), 1);
+        due("draw 0, coin 0", of("tub 1 by 1;draw 0;bite 0;apple a at 0 0 size 1 soft 0 coin 0;").about(6), 0);
+        TubBites cut = new TubBites();
+        put(cut, "abcdefghi");
+        cut.end(8);
+        due("what was cut off is not read", cut.tub(), -1);
+        due("what was cut off is not read", cut.fault(0), 2);
+        put(cut, "tub 1 by 1;draw 12;");
+        cut.end(17);
+        due("what was cut off is not read", cut.tub(), -1);
+        due("what was cut off is not read", cut.fault(1), 17);
+        put(cut, "tub 1 by 1;     ;");
+        cut.end(16);
+        due("what was cut off is not read", cut.tub(), 0);
         due("leading noughts", of("tub 0002 by 06;").about(1), 6);
     }
 
@@ -523,6 +538,19 @@ public final class PromiseTests {
         pushed(one, 1, 2, 0, 1, 2);
         pushed("apple a at 3 2 size 9 soft 9;", 0, 2, 0, 3, 2);
         pushed("apple a at 1 2 size 9 soft 9;apple b at 2 2 size 1 soft 0;", 0, 2, 4, 1, 2);
+        TubBites down = of("tub 3 by 5;odds free 0;apple a at 1 3 size 9 soft 0;apple b at 1 2 size 9 soft 0;"
+            + "apple c at 2 2 size 9 soft 0;bobber a at 2 4 reach 5 breath 5 mouth 0;");
+        due("across, as far as up", down.go(0, 0, 0), 0);
+        due("down", down.go(0, 1, 0), 0);
+        at(down, 0, 3, 1, 1, 2, 2);
+        TubBites column = of("tub 3 by 5;odds free 0;apple a at 1 3 size 9 soft 0;apple b at 1 2 size 9 soft 0;"
+            + "bobber a at 1 4 reach 5 breath 5 mouth 0;");
+        column.go(0, 0, 0);
+        at(column, 1, 2, 1, 1);
+        column.go(0, 0, 0);
+        at(column, 1, 1, 1, 0);
+        column.go(0, 0, 0);
+        at(column, 1, 1, 1, 0);
         TubBites row = of("tub 5 by 1;odds free 0;apple a at 2 0 size 9 soft 0;apple b at 1 0 size 9 soft 0;"
             + "apple c at 3 0 size 9 soft 0;bobber a at 0 0 reach 5 breath 5 mouth 0;");
         due("go(0, 1, 0)", row.go(0, 1, 0), 0);
@@ -799,6 +827,7 @@ public final class PromiseTests {
             + "bobber a at 0 0 reach 0 breath 0 mouth 0;bobber b at 0 1 reach 1 breath 0 mouth 0;");
         due("go(0, 0, 0)", later.go(0, 0, 0), 1);
         due("match(0, 0)", later.match(0, 0), -1);
+        due("two bobbers are enough", later.reply(0), 0);
     }
 
     private static void restingPairs() {
@@ -875,6 +904,8 @@ public final class PromiseTests {
         due("no such", t.easier(0, -1), -1);
         due("no such", t.easier(1, 0), -1);
         due("no such", t.easier(-1, 0), -1);
+        due("the first is easier", of("tub 2 by 1;odds free size;apple a at 0 0 size 30 soft 0;apple b at 1 0 size 20 soft 0;"
+            + "bobber a at 0 0 reach 3 breath 0 mouth 0;").easier(0, 1), 1);
         due("got", t.go(0, 3, 0), 1);
         due("easier(0, 0)", t.easier(0, 0), 2);
         due("out", t.easier(0, 3), -1);
@@ -1057,6 +1088,18 @@ public final class PromiseTests {
         due("nothing is done", one.apple(0, 0), 0);
         one.go(0, 0, 0);
         due("out", one.waves(0, 0, 0), -2);
+        TubBites left = of("tub 4 by 1;apple a at 3 0 size 1 soft 0;");
+        due("to the left", left.waves(0, 1, 0), 2);
+        due("lies(0)", left.lies(0), 0);
+        due("lies(1)", left.lies(1), 0);
+        TubBites down = of("tub 1 by 4;apple a at 0 3 size 1 soft 0;");
+        due("down", down.waves(0, 0, 2), 1);
+        due("lies(0)", down.lies(0), 3);
+        // two waves either way: left and up come before up and left
+        TubBites either = of("tub 2 by 2;apple a at 1 0 size 1 soft 0;");
+        due("either way", either.waves(0, 0, 1), 2);
+        due("lies(0)", either.lies(0), 0);
+        due("lies(1)", either.lies(1), 2);
         TubBites seven = of("tub 6 by 4;apple a at 0 0 size 1 soft 0;");
         due("seven are too many", seven.waves(0, 4, 3), -1);
         due("six will do", seven.waves(0, 5, 1), 6);
