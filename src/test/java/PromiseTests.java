@@ -177,7 +177,9 @@ public final class PromiseTests {
         due("pick(0, 1, 0)", t.pick(0, 1, 0), 0);
         due("later(5)", t.later(5), 5);
         due("rests()", t.rests(), 1);
-        due("image(1)", t.image(1), 1);
+        for (int box = 0; box < 3; box++) {
+            due("image", t.image(box), 1);
+        }
         put(t, "tub 2 by 2;apple a at 0 0 size 0");
         due("tub() with a fault", t.tub(), -1);
         due("fault(0)", t.fault(0), 4);
@@ -199,7 +201,10 @@ public final class PromiseTests {
         for (int what = 0; what < all.length; what++) {
             due("about(" + what + ")", t.about(what), all[what]);
         }
-        due("back(1) is empty", t.back(1), -1);
+        for (int box = 0; box < 3; box++) {
+            due("a box is empty", t.back(box), -1);
+        }
+        due("picks are none", t.untell(0), false);
         due("lies(0)", t.lies(0), -1);
         due("undo()", t.undo(), false);
         due("apple(0, 4)", t.apple(0, 4), 3);
@@ -241,6 +246,9 @@ public final class PromiseTests {
         faulty("tub 2 by 2;tub 2 by 2;", 2, "tub");
         faulty("tub 2 by 2;odds odds 1;", 2, "odds 1");
         faulty("tub 2 by 2;odds;", 2, ";");
+        faulty("tub 2 by 2;odds rule 1;", 2, "rule");
+        faulty("tub 2 by 2;rule a (1+;", 2, ";");
+        faulty("tub 2 by 2;rule a (1 or);", 2, ")");
         faulty("tub 2 by 2;rule a;", 2, ";");
         faulty("tub 2 by 2;rule a 1+;", 2, ";");
         faulty("tub 2 by 2;rule a 1 2;", 2, "2;");
@@ -271,6 +279,11 @@ public final class PromiseTests {
         cut.end(17);
         due("what was cut off is not read", cut.tub(), -1);
         due("what was cut off is not read", cut.fault(1), 17);
+        put(cut, "tub 1 by 2x");
+        cut.end(10);
+        due("a letter that was cut off", cut.tub(), -1);
+        due("a letter that was cut off", cut.fault(0), 2);
+        due("a letter that was cut off", cut.fault(1), 10);
         put(cut, "tub 1 by 1;     ;");
         cut.end(16);
         due("what was cut off is not read", cut.tub(), 0);
@@ -382,6 +395,10 @@ public final class PromiseTests {
         formula("not 0 and 0", 0);
         formula("2 and 3", 1);
         formula("2 and 0", 0);
+        formula("0 and 2", 0);
+        formula("1 and 1", 1);
+        formula("0 or 0", 0);
+        formula("1 or 1", 1);
         formula("0 or 7", 1);
         formula("1 or 1 and 0", 1);
         formula("0 and 1 or 1", 1);
@@ -448,6 +465,10 @@ public final class PromiseTests {
         due("odds(0, -1, 0)", t.odds(0, -1, 0), -1);
         due("odds(3, 0, 0)", t.odds(3, 0, 0), -1);
         due("odds(-1, 0, 0)", t.odds(-1, 0, 0), -1);
+        due("not at the rim", of("tub 3 by 3;odds free 50*wall;apple a at 1 1 size 1 soft 0;"
+            + "bobber a at 0 0 reach 1 breath 0 mouth 0;").odds(0, 0, 0), 0);
+        due("without a stalk", of("tub 3 by 3;odds free 50*stalk;apple a at 1 1 size 1 soft 0;"
+            + "bobber a at 0 0 reach 1 breath 0 mouth 0;").odds(0, 0, 0), 0);
         due("untold odds", of(PAIR).odds(0, 0, 2), 50);
         // across counts if it is as far across as up: what is pushed from (1, 1) goes to (2, 1), not to (1, 2)
         TubBites corner = of("tub 3 by 3;apple a at 1 1 size 1 soft 0;apple b at 1 2 size 1 soft 0;"
@@ -784,35 +805,36 @@ public final class PromiseTests {
         }
     }
 
-    private static final String RULES = "tub 4 by 1;odds free 40+20*far;odds stalk 60;odds wall 10;rule a odds;rule b 0-odds;"
-        + "rule c kind;apple a at 1 0 size 9 soft 0 stalk;apple b at 2 0 size 9 soft 0;apple c at 3 0 size 9 soft 0;"
-        + "bobber a at 0 0 reach 3 breath 3 mouth 0;bobber b at 3 0 reach 1 breath 0 mouth 0 by b;"
-        + "bobber c at 3 0 reach 3 breath 9 mouth 0 by b;";
+    /** By these draws the rules' matches are 1 1 1, -2 -1 -2, 2 0 2: one pair rests, the first and the second. */
+    private static final String RULES = "tub 5 by 1;draw 207;odds free 35+10*far;odds stalk 20;odds wall 25;"
+        + "rule a odds;rule b 0-odds;rule c far;apple a at 1 0 size 9 soft 0 stalk;apple b at 2 0 size 9 soft 0;"
+        + "apple c at 3 0 size 9 soft 0;apple d at 0 0 size 9 soft 0 stalk;";
+    private static final String FIRST = "bobber a at 0 0 reach 2 breath 3 mouth 0";
+    private static final String SECOND = "bobber b at 4 0 reach 3 breath 1 mouth 0";
+    private static final String THIRD = "bobber c at 2 0 reach 3 breath 9 mouth 0";
+    private static final int[][] MATCHES = {{1, 1, 1}, {-2, -1, -2}, {2, 0, 2}};
 
-    /** A match as a party of two in a tub of its own, by these rules. */
-    private static int matchByParty(String one, String two) {
-        TubBites t = of(RULES.replace("bobber a at 0 0 reach 3 breath 3 mouth 0;", "bobber a at 0 0 reach 3 breath 3 mouth 0 by " + one + ";")
-            .replace("bobber b at 3 0 reach 1 breath 0 mouth 0 by b;", "bobber b at 3 0 reach 1 breath 0 mouth 0 by " + two + ";")
-            .replace("bobber c at 3 0 reach 3 breath 9 mouth 0 by b;", ""));
+    private static void matchByParty(int one, int two) {
+        char a = (char) ('a' + one);
+        char b = (char) ('a' + two);
+        TubBites t = of(RULES + FIRST + " by " + a + ";" + SECOND + " by " + b + ";");
         t.party(10);
-        return t.bobber(0, 1) - t.bobber(1, 1);
+        due("a party by " + a + " and " + b, t.bobber(0, 1) - t.bobber(1, 1), MATCHES[one][two]);
     }
 
     private static void matches() {
         where = "17, 18";
-        TubBites t = of(RULES);
-        String[] rules = {"a", "b", "c"};
-        for (int two = 0; two < 3; two++) {
-            int bestReply = 0;
-            for (int one = 0; one < 3; one++) {
-                due("match(" + one + ", " + two + ")", t.match(one, two), matchByParty(rules[one], rules[two]));
-                if (matchByParty(rules[one], rules[two]) > matchByParty(rules[bestReply], rules[two])) {
-                    bestReply = one;
-                }
+        TubBites t = of(RULES + FIRST + ";" + SECOND + " by c;" + THIRD + " by b;");
+        for (int one = 0; one < 3; one++) {
+            for (int two = 0; two < 3; two++) {
+                due("match(" + one + ", " + two + ")", t.match(one, two), MATCHES[one][two]);
+                matchByParty(one, two);
             }
-            due("reply(" + two + ")", t.reply(two), bestReply);
         }
-        due("nothing is done", t.about(6), 0);
+        due("reply(0)", t.reply(0), 2);
+        due("reply(1)", t.reply(1), 0);
+        due("reply(2)", t.reply(2), 2);
+        due("nothing is done", t.about(6), 207);
         due("match(3, 0)", t.match(3, 0), -1000000);
         due("match(0, 3)", t.match(0, 3), -1000000);
         due("match(-1, 0)", t.match(-1, 0), -1000000);
@@ -822,6 +844,21 @@ public final class PromiseTests {
         TubBites alone = of("tub 1 by 1;rule a odds;bobber a at 0 0 reach 1 breath 0 mouth 0;");
         due("one bobber", alone.match(0, 0), -1000000);
         due("one bobber", alone.reply(0), -1);
+        TubBites ten = of("tub 1 by 1;odds free 100*(tries>8);rule a 1;apple a at 0 0 size 9 soft 0;"
+            + "bobber a at 0 0 reach 0 breath 0 mouth 0;bobber b at 0 0 reach 0 breath 0 mouth 0;");
+        due("the second one's tenth try", ten.match(0, 0), -1);
+        TubBites turns = of("tub 2 by 1;odds free 100*(tries>8);rule a 1;apple a at 0 0 size 9 soft 0;"
+            + "bobber a at 0 0 reach 0 breath 0 mouth 0;bobber b at 1 0 reach 0 breath 0 mouth 0;");
+        due("in the tenth turn", turns.match(0, 0), 1);
+        due("in the tenth turn", turns.seat(0, 10, 2), 1);
+        due("not in the ninth", turns.seat(0, 9, 2), 0);
+        due("in the tenth turn", turns.order(10), 1);
+        due("not in the ninth", turns.order(9), 0);
+        due("of like ones the first", turns.lies(0), 0);
+        due("of like ones the first", turns.lies(1), 1);
+        due("gone with the tenth turn", turns.gone(1), 10);
+        due("not in an eleventh turn", of("tub 2 by 1;odds free 100*(tries>9);rule a 1;apple a at 0 0 size 9 soft 0;"
+            + "bobber a at 0 0 reach 0 breath 0 mouth 0;bobber b at 1 0 reach 0 breath 0 mouth 0;").match(0, 0), 0);
         // got before it does not count: draws 79, 39 are next; the first misses, the second gets the last one
         TubBites later = of("tub 1 by 2;odds free 50;rule a odds;apple a at 0 0 size 1 soft 0;apple b at 0 1 size 1 soft 0;"
             + "bobber a at 0 0 reach 0 breath 0 mouth 0;bobber b at 0 1 reach 1 breath 0 mouth 0;");
@@ -832,25 +869,10 @@ public final class PromiseTests {
 
     private static void restingPairs() {
         where = "19";
-        TubBites t = of(RULES);
-        int[] lie = new int[9];
-        int count = 0;
-        for (int one = 0; one < 3; one++) {
-            for (int two = 0; two < 3; two++) {
-                boolean rests = true;
-                for (int other = 0; other < 3; other++) {
-                    rests &= t.match(other, two) <= t.match(one, two) && t.match(one, other) >= t.match(one, two);
-                }
-                if (rests) {
-                    lie[count++] = 10 * one + two;
-                }
-            }
-        }
-        due("rests()", t.rests(), count);
-        for (int i = 0; i < count; i++) {
-            due("lies(" + i + ")", t.lies(i), lie[i]);
-        }
-        due("lies behind", t.lies(count), -1);
+        TubBites t = of(RULES + FIRST + ";" + SECOND + ";" + THIRD + ";");
+        due("rests()", t.rests(), 1);
+        due("lies(0)", t.lies(0), 1);
+        due("lies(1)", t.lies(1), -1);
         TubBites like = of("tub 2 by 1;rule a 1;rule b 2;bobber a at 0 0 reach 1 breath 0 mouth 0;"
             + "bobber b at 0 0 reach 1 breath 0 mouth 0;");
         due("all alike", like.rests(), 4);
