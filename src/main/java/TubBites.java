@@ -1742,11 +1742,17 @@ public final class TubBites {
             return NONE;
         }
 
-        /** A miss that changes nothing is passed over: without it the way would be shorter. */
+        /**
+         * A miss brings an apple one cell nearer at most, so what is further than that is given up; one that changes
+         * nothing is passed over: without it the way would be shorter.
+         */
         private boolean drivesWithin(int depth, int left) {
             State here = level(depth);
             if (left <= 0 || depth >= MOST_DRIVES) {
                 return game.canTry(here, other, apple, FREE);
+            }
+            if (here.holder[apple] != NONE || game.far(here, other, apple) - game.told.reach[other] > left) {
+                return false;
             }
             for (int tried = 0; tried < game.told.apples; tried++) {
                 if (game.canTry(here, bobber, tried, FREE)) {
@@ -1779,11 +1785,15 @@ public final class TubBites {
             return NONE;
         }
 
-        /** A wave by which nothing goes is passed over: without it the way would be shorter. */
+        /**
+         * A wave brings an apple one cell nearer at most, so what is further than that is given up; one by which
+         * nothing goes is passed over: without it the way would be shorter.
+         */
         private boolean wavesWithin(int depth, int left) {
             State here = level(depth);
-            if (left <= 0 || depth >= MOST_WAVES) {
-                return here.x[apple] == goalX && here.y[apple] == goalY;
+            int distance = Math.abs(here.x[apple] - goalX) + Math.abs(here.y[apple] - goalY);
+            if (left <= 0 || depth >= MOST_WAVES || distance > left) {
+                return distance == 0;
             }
             for (int side = 0; side < SIDES; side++) {
                 path[depth] = side;
