@@ -22,6 +22,10 @@ public final class DocumentTests {
     private static int wrong = 0;
 
     public static void main(String[] args) throws Exception {
+        if (!Files.exists(DOCUMENT)) {
+            System.out.println("no document here to hold the quotes against");
+            return;
+        }
         cutUp(Files.readString(DOCUMENT));
         int quotes = 0;
         for (Class<?> tests : TESTS) {

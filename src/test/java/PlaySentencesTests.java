@@ -369,6 +369,23 @@ public final class PlaySentencesTests extends Sentences {
         due("of what he can do now", t.chooses(0), 10);
     }
 
+    @Says({"t2: that of which its e is the greatest", "9: What his RULE CHOOSES:"})
+    private static void byTheOnlyRule() {
+        TubBites t = of("tub 3 by 1;rule a size;apple a at 0 0 size 1 soft 0;apple b at 1 0 size 2 soft 0;" + bobber('a', 0, 0, 2, 0));
+        due("one rule", t.chooses(0), 10);
+        due("party(1)", t.party(1), 1);
+        due("it has the greater one", t.apple(1, 2), 0);
+    }
+
+    @Says({"t2: (as above; kind, odds: of that TRY);", "t2: kind, odds 0;"})
+    private static void oddsThatARuleSees() {
+        String tub = "tub 1 by 1;odds free 30;odds stalk 20+odds;odds wall 20*kind;odds ground odds;apple a at 0 0 size 1 soft 0 stalk;";
+        due("30 by the first", of(tub + "rule a odds;" + bobber('a', 0, 0, 0, 3)).chooses(0), 0);
+        due("the least is the third", of(tub + "rule a 0-odds;" + bobber('a', 0, 0, 0, 2)).chooses(0), 2);
+        due("20 by the second", of(tub + "rule a odds=20;" + bobber('a', 0, 0, 0, 3)).chooses(0), 1);
+        due("kind of that try", of(tub + "rule a kind=3;" + bobber('a', 0, 0, 0, 3)).chooses(0), 3);
+    }
+
     @Says({"t2: of like ones the first (APPLE, then KIND);"})
     private static void ofLikeTriesTheFirst() {
         String apples = "apple a at 3 0 size 5 soft 0 stalk;apple b at 1 0 size 5 soft 0 stalk;apple c at 0 0 size 5 soft 0 stalk;";
@@ -406,6 +423,8 @@ public final class PlaySentencesTests extends Sentences {
         due("the first", t.chooses(1), 0);
         due("party(1)", t.party(1), 0);
         due("by free tries", t.record(0, FREE, 0) + t.record(1, FREE, 0), 2);
+        TubBites lean = of("tub 4 by 1;odds lean size+kind;apple a at 0 0 size 1 soft 0;apple b at 1 0 size 9 soft 0;" + bobber('a', 0, 0, 2, 3));
+        due("no odds are a rule", lean.chooses(0), 0);
     }
 
     @Says({"9: -2 if there is none such."})
@@ -937,6 +956,24 @@ public final class PlaySentencesTests extends Sentences {
         }
     }
 
+    @Says({"t2: RECORDS of a BOBBER and a KIND:"})
+    private static void eachRecordByItself() {
+        TubBites t = of("tub 2 by 1;odds free 60;odds stalk 61;odds wall 62;odds ground 63;odds lean 64;apple a at 0 0 size 9 soft 0 stalk;"
+            + numbered("bobber b# at 0 0 reach 0 breath 20 mouth 0;", 4));
+        t.image(0);
+        for (int bobber = 0; bobber < 4; bobber++) {
+            for (int kind = 0; kind < 4; kind++) {
+                due("draw 7", t.go(bobber, 0, kind), 1);
+                for (int code = 0; code < 20; code++) {
+                    boolean isIt = code / 5 == bobber && code % 5 == kind;
+                    due("record(" + code / 5 + ", " + code % 5 + ", 0)", t.record(code / 5, code % 5, 0), isIt ? 1 : 0);
+                    due("record(" + code / 5 + ", " + code % 5 + ", 2)", t.record(code / 5, code % 5, 2), isIt ? 60 + kind : 0);
+                }
+                t.back(0);
+            }
+        }
+    }
+
     @Says({"t2: their ODDS together (in earnest)."})
     private static void partiesAreInEarnest() {
         TubBites t = of("tub 2 by 1;odds free 60-20*tries;rule a far;" + apple('a', 1, 0) + bobber('a', 0, 0, 1, 9) + "draw 71;");
@@ -974,6 +1011,11 @@ public final class PlaySentencesTests extends Sentences {
         due("100 at most", alike.easier(0, 0), 0);
         alike.go(0, 1, FREE);
         due("of those in the tub", alike.easier(0, 0), 0);
+        TubBites ten = of("tub 6 by 2;odds free 100-10*far;" + numbered("apple a# at @ size 9 soft 0;", 10) + bobber('a', 0, 0, 5, 0));
+        int[] easier = {0, 1, 4, 6, 8, 9, 1, 1, 4, 6};
+        for (int apple = 0; apple < 10; apple++) {
+            due("easier(0, " + apple + ") of ten", ten.easier(0, apple), easier[apple]);
+        }
     }
 
     @Says({"21: NONE if he can't TRY it free,"})

@@ -108,6 +108,18 @@ public final class SearchSentencesTests extends Sentences {
         due("no third", sure.best(0, 8, 0), 2000000);
     }
 
+    @Says({"t3: what one BOBBER can get,"})
+    private static void bestForEachBobber() {
+        TubBites t = of("tub 3 by 1;odds free 10*mouth;" + apple('a', 0, 0) + apple('b', 1, 0) + apple('c', 2, 0)
+            + "bobber a at 0 0 reach 0 breath 0 mouth 3;bobber b at 2 0 reach 0 breath 0 mouth 5;bobber c at 1 0 reach 0 breath 0 mouth 0;");
+        int[] most = {300000, 500000, 0};
+        int[] first = {0, 20, -1};
+        for (int bobber = 0; bobber < 3; bobber++) {
+            due("best(" + bobber + ", 1, 0)", t.best(bobber, 1, 0), most[bobber]);
+            due("best(" + bobber + ", 1, 1)", t.best(bobber, 1, 1), first[bobber]);
+        }
+    }
+
     @Says({"t3: (PIECE, PUSH and all;"})
     private static void pieceAndPush() {
         TubBites piece = of(ONE_CELL + "bite 0;apple a at 0 0 size 2 soft 0;" + bobber('a', 0, 0, 0, 0));
@@ -340,6 +352,12 @@ public final class SearchSentencesTests extends Sentences {
         for (int two = 0; two < 3; two++) {
             due("reply(" + two + ")", matches.reply(two), due[two]);
         }
+        // he would do better by no rule at all: the first try is the only one that has odds
+        TubBites other = of("tub 3 by 1;odds free 100*(far=0);rule a far;rule b far*2;" + apple('a', 0, 0) + apple('b', 2, 0)
+            + bobber('a', 0, 0, 2, 0) + bobber('b', 1, 0, 0, 0));
+        due("match(0, 0)", other.match(0, 0), 0);
+        due("match(1, 0)", other.match(1, 0), 0);
+        due("reply(0)", other.reply(0), 0);
         // the best may be below 0
         TubBites below = of("tub 2 by 1;odds free 100;rule a 1;" + apple('a', 1, 0) + bobber('a', 0, 0, 0, 0) + bobber('b', 1, 0, 0, 0));
         due("match(0, 0)", below.match(0, 0), -1);
@@ -405,6 +423,30 @@ public final class SearchSentencesTests extends Sentences {
                 due("seat(0, " + n + ", " + what + ")", t.seat(0, n, what), due[Math.min(n, 3) - 1][what]);
             }
         }
+    }
+
+    @Says({"t3: he GETS most in n TURNS;"})
+    private static void eachSeatIsLookedForAnew() {
+        TubBites t = of("tub 5 by 1;" + GET + apple('a', 0, 0) + apple('b', 1, 0) + bobber('a', 4, 0, 1, 0) + bobber('b', 4, 0, 0, 0));
+        due("two", t.seat(0, 2, 2), 2);
+        due("one of them", t.seat(0, 1, 2), 1);
+        due("the other bobber", t.seat(1, 9, 2), 1);
+        t.go(0, 0, FREE);
+        t.party(0);
+        due("x", t.seat(1, 9, 0), 0);
+        TubBites none = of("tub 5 by 1;" + MISS + apple('a', 0, 0) + bobber('a', 4, 0, 1, 0));
+        due("none", none.seat(0, 9, 2), 0);
+        due("the first", none.seat(0, 9, 0), 0);
+    }
+
+    @Says({"t3: CELL at the rim"})
+    private static void noSeatOutsideOfTheTub() {
+        TubBites t = of("tub 3 by 1;odds free 100*(far=3);" + apple('a', 0, 0) + bobber('a', 0, 0, 5, 0));
+        due("x", t.seat(0, 1, 0), 0);
+        due("gets", t.seat(0, 1, 2), 0);
+        TubBites up = of("tub 1 by 3;odds free 100*(far=3);" + apple('a', 0, 0) + bobber('a', 0, 0, 5, 0));
+        due("y", up.seat(0, 1, 1), 0);
+        due("gets", up.seat(0, 1, 2), 0);
     }
 
     @Says({"t3: for n TURNS (1 .. 10): the CELL"})
@@ -488,6 +530,19 @@ public final class SearchSentencesTests extends Sentences {
             due("no misses in " + n, of("tub 2 by 1;" + GET + apple('a', 0, 0) + bobber('a', 0, 0, 0, 0)).order(n), 1);
         }
         due("10 misses in 10", missesFirst(10).order(10), 0);
+    }
+
+    @Says({"t3: BOBBERS (all) take turns,"})
+    private static void allTakeTurnsOnceEach() {
+        TubBites t = of("tub 6 by 1;" + GET + numbered("apple a# at @ size 9 soft 0;", 6) + bobber('a', 0, 0, 0, 0) + bobber('b', 3, 0, 2, 0));
+        t.go(0, 0, FREE);
+        due("one each turn", t.order(1), 1);
+        lying(t, 0, 1);
+        due("five turns", t.order(5), 5);
+        TubBites last = of("tub 6 by 1;" + GET + numbered("apple a# at @ size 9 soft 0;", 6) + bobber('a', 3, 0, 2, 0) + bobber('b', 0, 0, 0, 0));
+        last.go(1, 0, FREE);
+        due("one each turn", last.order(1), 1);
+        lying(last, 0, 1);
     }
 
     @Says({"t3: of like ones the first (by BOBBERS, the first counts most)."})
@@ -576,6 +631,23 @@ public final class SearchSentencesTests extends Sentences {
             + bobber('a', 0, 0, 5, 0) + bobber('b', 3, 0, 0, 0));
         due("c eaten, then b goes on", room.drives(0, 1, 1), 2);
         lying(room, 2, 0);
+    }
+
+    @Says({"t3: DRIVES from a BOBBER to another one:"})
+    private static void drivenToEachSide() {
+        int[][] kneels = {{0, 2, 5, 2}, {5, 2, 0, 2}, {2, 0, 2, 5}, {2, 5, 2, 0}};
+        for (int[] row : kneels) {
+            TubBites t = of("tub 6 by 6;" + GET + apple('a', 2, 2) + bobber('a', row[2], row[3], 1, 0) + bobber('b', row[0], row[1], 5, 0));
+            int far = Math.max(Math.abs(row[2] - 2), Math.abs(row[3] - 2));
+            due("drives(1, 0, 0)", t.drives(1, 0, 0), far - 1);
+            lying(t, new int[far - 1]);
+            due("he himself would drive it away", t.drives(0, 1, 0), 0);
+        }
+        TubBites ten = of("tub 6 by 2;" + GET + numbered("apple a# at @ size 9 soft 0;", 10) + bobber('a', 0, 1, 5, 0) + bobber('b', 5, 1, 1, 0));
+        due("the last of ten, one further", ten.drives(0, 1, 9), 1);
+        lying(ten, 7);
+        due("the first of ten", ten.drives(0, 1, 0), -1);
+        lying(ten);
     }
 
     @Says({"t3: of like ones the first (APPLE by APPLE)."})

@@ -69,9 +69,15 @@ public final class SeenSentencesTests extends Sentences {
         due("chance(0)", t.chance(0), 1 << 30);
         due("the last one", t.untell(29), true);
         due("chance(0)", t.chance(0), 1 << 29);
+        due("of them all", t.fits(0), 2);
+        due("for none it is not so", t.nearest(1, 0), 0);
+        due("the other two are wrong for all that count", t.nearest(0, 0), 1);
         tape(t, SEEN);
         t.tub();
-        due("in another tub", t.pick(0, 3, 0), 0);
+        due("in another tub", t.pick(0, 6, 1), 0);
+        due("of that alone", t.fits(0), 5);
+        due("chance(0)", t.chance(0), 2);
+        due("nearest(1, 0)", t.nearest(1, 0), 0);
     }
 
     @Says({"t4: (in CELLS as told, nothing MISSED)", "t4: a BOBBER (all his breath) took one, free."})
@@ -288,6 +294,11 @@ public final class SeenSentencesTests extends Sentences {
         due("each but for one", t.nearest(1, 0), 1);
         t.pick(1, 7, 0);
         due("great or near", t.nearest(0, 0), 1);
+        // none takes the first one, so each is wrong as often: there is no third rule
+        TubBites no = of("tub 2 by 1;rule a size;rule b size*2;apple a at 0 0 size 1 soft 0;apple b at 1 0 size 2 soft 0;" + bobber('a', 0, 0, 0, 0));
+        no.pick(0, 3, 0);
+        due("the first", no.nearest(0, 0), 0);
+        due("but for one", no.nearest(1, 0), 1);
     }
 
     @Says({"27: NONE without RULES, or for another what."})

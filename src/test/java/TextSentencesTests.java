@@ -101,6 +101,24 @@ public final class TextSentencesTests extends Sentences {
         due("about(0)", t.about(0), 0);
     }
 
+    @Says({"3: The TAPE has its first n bytes: n"})
+    private static void whatIsCutOffIsNotRead() {
+        TubBites t = new TubBites();
+        tape(t, TUB + "rule abcdefghi 1;");
+        due("end", t.end(TUB.length() + 13), TUB.length() + 13);
+        due("a word of 8", t.tub(), -1);
+        due("fault(0)", t.fault(0), 2);
+        due("fault(1)", t.fault(1), TUB.length() + 13);
+        tape(t, "tub 6 by 55;");
+        due("end(10)", t.end(10), 10);
+        due("feed", t.feed(0x3b202020, 0x20202020, 0x20202020, 0x20202020, 0x20202020), 30);
+        due("5, not 55", t.tub(), 0);
+        due("about(1)", t.about(1), 5);
+        tape(t, TUB + " ".repeat(1581) + "rule abc");
+        due("a word up to the last byte", t.tub(), -1);
+        due("fault(1)", t.fault(1), 1600);
+    }
+
     @Says({"3: NONE, doing nothing, if it has not so many"})
     private static void endBeyondTheTape() {
         TubBites t = new TubBites();
@@ -174,6 +192,46 @@ public final class TextSentencesTests extends Sentences {
         due("seed", t.about(6), 9);
         due("rules", t.about(5), 0);
         due("units", t.about(12), 0);
+    }
+
+    /** An object may keep something of a text that it has read, so each is told more than once. */
+    @Says({"4: (all as told,"})
+    private static void textAfterText() {
+        TubBites t = new TubBites();
+        String full = "tub 6 by 5;draw 7;bite 0;odds free 1+2;odds stalk 3;odds wall 4;odds ground 5;odds lean 6;rule a size;rule b 0-size;"
+            + "apple a at 1 0 size 5 soft 0 stalk coin 3;" + apple('b', 2, 0) + "bobber a at 0 0 reach 5 breath 9 mouth 3 by b;"
+            + "bobber b at 0 0 reach 5 breath 9 mouth 3 by b;";
+        int[] all = {6, 5, 2, 2, 2, 2, 7, 0, 0, 0, 0, 0, 9, 0};
+        for (int time = 0; time < 4; time++) {
+            tape(t, full);
+            due("tub()", t.tub(), 2);
+            for (int what = 0; what < 14; what++) {
+                due("about(" + what + ")", t.about(what), all[what]);
+            }
+            due("by b", t.chooses(1), 0);
+            due("got", t.go(0, 1, 0), 0);
+            due("a party", t.party(20) >= 0, true);
+            tape(t, "tub 3 by 2;rule a 0-far;rule b far;apple a at 1 0 size 5 soft 9;" + apple('b', 2, 0)
+                + bobber('a', 0, 0, 2, 3) + bobber('b', 2, 0, 2, 3));
+            due("tub()", t.tub(), 2);
+            due("by the first rule", t.chooses(0), 0);
+            due("by the first rule", t.chooses(1), 10);
+            for (int kind = 0; kind < 5; kind++) {
+                due("odds that are not told", t.odds(0, 0, kind), kind == 1 ? -1 : 50);
+            }
+            due("coin(0, 1)", t.coin(0, 1), 2);
+            due("units", t.about(12), 3);
+            due("seed", t.about(6), 0);
+            due("got", t.bobber(0, 1), 0);
+            due("draw 7", t.go(0, 0, 0), 1);
+            due("got", t.bobber(0, 1), 1);
+            due("draw 79", t.go(0, 1, 0), 0);
+            due("no bite", t.apple(1, 4), 9);
+            due("tub() of none", t.tub(), 0);
+            for (int what = 0; what < 14; what++) {
+                due("about(" + what + ") of none", t.about(what), 0);
+            }
+        }
     }
 
     @Says({"4: no ACTS are kept,"})
@@ -405,9 +463,15 @@ public final class TextSentencesTests extends Sentences {
         faulty(TUB, "by", 2);
         faulty(TUB, "a 1;", 2);
         faulty(TUB, "size 1;", 2);
-        faulty(TUB + "odds ", "odds 1;", 2);
-        faulty(TUB + "odds ", "size 1;", 2);
         faulty(TUB + "odds ", "a 1;", 2);
+        for (String word : OWN_WORDS) {
+            if (!" free stalk wall ground lean ".contains(" " + word + " ")) {
+                faulty(TUB + "odds ", word + " 1;", 2);
+            }
+            if (!" odds rule apple bobber draw bite ".contains(" " + word + " ")) {
+                faulty(TUB, word + " 1;", 2);
+            }
+        }
         faulty(TUB + "draw ", "a;", 2);
     }
 
@@ -479,6 +543,9 @@ public final class TextSentencesTests extends Sentences {
         faulty(TUB + "rule a 1+", ";", 2);
         faulty(TUB + "rule a 1 or", ";", 2);
         faulty(TUB + "rule a 1 and", ";", 2);
+        for (String open : new String[] {"(", "(1+", "(1 or ", "(not ", "((1)*", "1+(2<"}) {
+            faulty(TUB + "rule a " + open, ";rule b 1;", 2);
+        }
     }
 
     // Tokens
@@ -675,6 +742,11 @@ public final class TextSentencesTests extends Sentences {
         faulty(TUB + "bite 1;draw 2;", "bite 1;", 2);
         faulty(TUB + "bite 0;", "bite", 2);
         of(TUB + "bite 1;draw 2;");
+        TubBites t = new TubBites();
+        for (int time = 0; time < 3; time++) {
+            tape(t, TUB + "bite 1;draw 2;");
+            due("once in each text", t.tub(), 0);
+        }
     }
 
     @Says({"t1: 6 RULES,", "t1: (one of a sort too many,"})
