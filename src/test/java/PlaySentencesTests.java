@@ -302,7 +302,18 @@ public final class PlaySentencesTests extends Sentences {
         due("0 less the least", odds("9*(0-4096*4096*128=4096*4096*128)"), 9);
     }
 
-    @Says({"t2: / cut, % its rest, both by 0: 0;"})
+    @Says({"t2: both by 0: 0;"})
+    private static void byNought() {
+        due("/ 0", odds("8+7/0"), 8);
+        due("% 0", odds("8+7%0"), 8);
+        due("0/0", odds("8+0/0"), 8);
+        due("0%0", odds("8+0%0"), 8);
+        due("/ tries", odds("8+size/tries"), 8);
+        due("% tries", odds("8+size%tries"), 8);
+        due("/ 0 in a rule", of("tub 2 by 1;rule a size/tries;" + apple('a', 0, 0) + apple('b', 1, 0) + bobber('a', 0, 0, 1, 0)).chooses(0), 0);
+    }
+
+    @Says({"t2: / cut, % its rest,"})
     private static void cutAndRest() {
         due("7/2", odds("7/2"), 3);
         due("below 0 it is cut, too", odds("10+(0-7)/2"), 7);
@@ -310,11 +321,6 @@ public final class PlaySentencesTests extends Sentences {
         due("7%4", odds("7%4"), 3);
         due("the rest of what is below 0", odds("10+(0-7)%4"), 7);
         due("the rest by what is below 0", odds("10+7%(0-4)"), 13);
-        due("/ 0", odds("8+7/0"), 8);
-        due("% 0", odds("8+7%0"), 8);
-        due("0/0", odds("8+0/0"), 8);
-        due("/ tries", odds("8+size/tries"), 8);
-        due("% tries", odds("8+size%tries"), 8);
     }
 
     @Says({"t2: relations, and, or, not are 1 or 0, of what is not 0)."})
@@ -594,7 +600,48 @@ public final class PlaySentencesTests extends Sentences {
         pushed("tub 2 by 6;" + MISS + apple('a', 0, 4) + apple('b', 0, 5) + bobber('a', 0, 0, 5, 0), 0, 4, 0, 5);
     }
 
-    @Says({"10: NONE, doing nothing, if he can't do it,", "10: (An ACT.)"})
+    /** An act is kept, can be undone, and what was undone ahead of it can't be done again. */
+    private static void isAnAct(TubBites t, int act) {
+        t.wave(0);
+        t.undo();
+        int seconds = t.bobber(0, 2);
+        int answer = act == 0 ? t.go(0, 0, FREE) : act == 1 ? t.breathe(0) : act == 2 ? t.wave(1) : t.party(1);
+        due("it was done", answer >= 0, true);
+        due("about(7)", t.about(7), 1);
+        due("about(8)", t.about(8), 0);
+        due("redo()", t.redo(), false);
+        due("undo()", t.undo(), true);
+        due("as it was", t.bobber(0, 2), seconds);
+        due("redo()", t.redo(), true);
+        due("undo()", t.undo(), true);
+        due("undo()", t.undo(), false);
+    }
+
+    private static TubBites oneOfEach() {
+        return of("tub 3 by 1;" + apple('a', 1, 0) + bobber('a', 0, 0, 2, 3));
+    }
+
+    @Says({"10: (An ACT.)"})
+    private static void goIsAnAct() {
+        isAnAct(oneOfEach(), 0);
+    }
+
+    @Says({"11: (An ACT.)"})
+    private static void breathingIsAnAct() {
+        isAnAct(oneOfEach(), 1);
+    }
+
+    @Says({"12: (An ACT.)"})
+    private static void aWaveIsAnAct() {
+        isAnAct(oneOfEach(), 2);
+    }
+
+    @Says({"13: (An ACT.)"})
+    private static void aPartyIsAnAct() {
+        isAnAct(oneOfEach(), 3);
+    }
+
+    @Says({"10: NONE, doing nothing, if he can't do it,"})
     private static void goDoesNothingIfHeCant() {
         TubBites t = of("tub 4 by 1;" + apple('a', 1, 0) + apple('b', 3, 0) + bobber('a', 0, 0, 2, 0));
         due("an act", t.wave(0), 2);
@@ -631,7 +678,7 @@ public final class PlaySentencesTests extends Sentences {
 
     // Promises 11 to 13
 
-    @Says({"11: He BREATHES: his BREATH;", "t2: ACTS: a TRY; he BREATHES: 2 SECONDS, BREATH is as told;", "11: (An ACT.)"})
+    @Says({"11: He BREATHES: his BREATH;", "t2: ACTS: a TRY; he BREATHES: 2 SECONDS, BREATH is as told;"})
     private static void heBreathes() {
         TubBites t = of("tub 1 by 1;" + MISS + apple('a', 0, 0) + bobber('a', 0, 0, 0, 5));
         due("go(0, 0, 3)", t.go(0, 0, GROUND), 0);
@@ -660,7 +707,7 @@ public final class PlaySentencesTests extends Sentences {
         due("of a new object", new TubBites().breathe(0), -1);
     }
 
-    @Says({"t2: a WAVE to a side (0 left, 1 right, 2 up: more y, 3 down):", "12: A WAVE: how many APPLES went on;", "12: (An ACT.)"})
+    @Says({"t2: a WAVE to a side (0 left, 1 right, 2 up: more y, 3 down):", "12: A WAVE: how many APPLES went on;"})
     private static void aWaveToASide() {
         int[][] cells = {{1, 2}, {3, 2}, {2, 3}, {2, 1}};
         for (int side = 0; side < 4; side++) {
@@ -734,7 +781,7 @@ public final class PlaySentencesTests extends Sentences {
     }
 
     @Says({"t2: a PARTY of so many TURNS: in each the BOBBERS by number do what their RULE CHOOSES.",
-        "13: A PARTY of so many TURNS (0 .. 20): how many APPLES were GOT in it;", "13: (An ACT.)"})
+        "13: A PARTY of so many TURNS (0 .. 20): how many APPLES were GOT in it;"})
     private static void aParty() {
         // draws 7, 79, 39, 46: the first gets, the second misses and pushes; then both get
         TubBites t = of("tub 5 by 1;odds free 50;rule a odds;rule b 0-size;" + apple('a', 0, 0) + apple('b', 1, 0)

@@ -562,12 +562,22 @@ public final class SearchSentencesTests extends Sentences {
         lying(ahead, 0, 2, 1, 3);
     }
 
-    @Says({"23: NONE if one can't be.", "23: It lies there then (behind NONE: nothing)."})
+    @Says({"23: NONE if one can't be."})
     private static void noOrder() {
-        TubBites t = of(ONE_CELL + bobber('a', 0, 0, 0, 3));
+        TubBites t = of(ONE_CELL + GET + apple('a', 0, 0) + bobber('a', 0, 0, 0, 3));
+        due("order(1)", t.order(1), 1);
+        due("order(10)", t.order(10), 1);
+        for (int n : beyond(1, 10)) {
+            due("order(" + n + ")", t.order(n), -1);
+        }
+    }
+
+    @Says({"23: It lies there then (behind NONE: nothing)."})
+    private static void behindNoOrderNothingLies() {
+        TubBites t = of(ONE_CELL + bobber('a', 0, 0, 0, 3) + bobber('b', 0, 0, 0, 3) + bobber('c', 0, 0, 0, 3));
         for (int n : beyond(1, 10)) {
             due("order(1)", t.order(1), 0);
-            lying(t, 0);
+            lying(t, 0, 1, 2);
             due("order(" + n + ")", t.order(n), -1);
             lying(t);
         }
@@ -578,7 +588,7 @@ public final class SearchSentencesTests extends Sentences {
     private static final String ROW = "tub 6 by 1;" + GET + apple('a', 1, 0);
 
     @Says({"t3: DRIVES from a BOBBER to another one: the fewest free TRIES (4 at most) of the first, all MISSED,", "24: DRIVES: how many TRIES;",
-        "24: NONE if 4 are not enough;", "24: Their APPLES lie there then (behind NONE, -2: nothing)."})
+        "24: Their APPLES lie there then"})
     private static void fourTriesAtMost() {
         for (int reach = 0; reach <= 5; reach++) {
             TubBites t = of(ROW + bobber('a', 0, 0, 5, 0) + bobber('b', 5, 0, reach, 0));
@@ -668,27 +678,50 @@ public final class SearchSentencesTests extends Sentences {
         lying(room, 0, 0);
     }
 
-    @Says({"24: -2 if one can't be (the same BOBBER, an APPLE that is out, too)."})
+    @Says({"24: -2 if one can't be"})
     private static void noDrivesOfNone() {
         TubBites t = of(ROW + apple('b', 2, 0) + bobber('a', 0, 0, 5, 0) + bobber('b', 5, 0, 1, 0));
+        due("drives(0, 1, 0)", t.drives(0, 1, 0), 3);
         for (int no : beyond(0, 1)) {
-            due("drives(0, 1, 0)", t.drives(0, 1, 0), 3);
             due("drives(" + no + ", 1, 0)", t.drives(no, 1, 0), -2);
-            lying(t);
             due("drives(0, " + no + ", 0)", t.drives(0, no, 0), -2);
-            t.order(1);
+            due("drives(" + no + ", " + no + ", 0)", t.drives(no, no, 0), -2);
             due("drives(0, 1, " + no + ")", t.drives(0, 1, no), -2);
+        }
+        due("of a new object", new TubBites().drives(0, 1, 0), -2);
+    }
+
+    @Says({"24: (the same BOBBER,"})
+    private static void noDrivesToHimself() {
+        TubBites t = of(ROW + bobber('a', 0, 0, 5, 0) + bobber('b', 5, 0, 1, 0));
+        due("drives(0, 0, 0)", t.drives(0, 0, 0), -2);
+        due("drives(1, 1, 0)", t.drives(1, 1, 0), -2);
+        due("drives(1, 0, 0)", t.drives(1, 0, 0), 0);
+    }
+
+    @Says({"24: an APPLE that is out, too)."})
+    private static void noDrivesOfWhatIsOut() {
+        TubBites t = of("tub 6 by 1;odds free 8;bite 5;" + apple('a', 1, 0) + "apple b at 2 0 size 1 soft 5;" + apple('c', 3, 0)
+            + bobber('a', 0, 0, 5, 0) + bobber('b', 5, 0, 5, 0));
+        due("in the tub", t.drives(0, 1, 0), 0);
+        due("got", t.go(0, 0, FREE), 1);
+        due("drives(0, 1, 0)", t.drives(0, 1, 0), -2);
+        due("in the tub", t.drives(0, 1, 1), 0);
+        due("eaten", t.go(0, 1, FREE), 0);
+        due("drives(0, 1, 1)", t.drives(0, 1, 1), -2);
+        due("drives(0, 1, 2)", t.drives(0, 1, 2), 0);
+    }
+
+    @Says({"24: Their APPLES lie there then (behind NONE, -2: nothing)."})
+    private static void behindNoDrivesNothingLies() {
+        TubBites t = of(ROW + apple('b', 0, 0) + bobber('a', 0, 0, 5, 0) + bobber('b', 5, 0, 1, 0));
+        int[][] none = {{0, 1, 1, -1}, {0, 0, 0, -2}, {0, 2, 0, -2}, {-1, 1, 0, -2}, {0, 1, 2, -2}};
+        for (int[] row : none) {
+            due("drives(0, 1, 0)", t.drives(0, 1, 0), 3);
+            lying(t, 0, 0, 0);
+            due("drives(" + row[0] + ", " + row[1] + ", " + row[2] + ")", t.drives(row[0], row[1], row[2]), row[3]);
             lying(t);
         }
-        t.order(1);
-        due("the same", t.drives(0, 0, 0), -2);
-        lying(t);
-        due("the same", t.drives(1, 1, 0), -2);
-        t.go(0, 0, FREE);
-        t.order(1);
-        due("it is out", t.drives(0, 1, 0), -2);
-        lying(t);
-        due("of a new object", new TubBites().drives(0, 1, 0), -2);
     }
 
     // Promises 25 and 26
@@ -732,23 +765,30 @@ public final class SearchSentencesTests extends Sentences {
         due("of a new object", new TubBites().gone(0), 0);
     }
 
-    @Says({"25: -2 if one can't be (an APPLE that is out, too)."})
+    @Says({"25: -2 if one can't be"})
     private static void noneIsGone() {
-        TubBites t = of("tub 4 by 1;odds free 8;bite 0;" + apple('a', 0, 0) + "apple b at 1 0 size 1 soft 0;" + apple('c', 2, 0)
-            + bobber('a', 0, 0, 2, 0));
+        TubBites t = of("tub 4 by 1;" + apple('a', 0, 0) + apple('b', 1, 0) + apple('c', 2, 0) + bobber('a', 0, 0, 2, 0));
+        due("all there are", t.gone(7) != -2, true);
         for (int set : new int[] {8, 9, 15, 16, 1024, -1, -8, Integer.MIN_VALUE, Integer.MIN_VALUE + 1, Integer.MAX_VALUE, 1 << 30}) {
             due("gone(" + set + ")", t.gone(set), -2);
         }
+        due("of a new object", new TubBites().gone(1), -2);
+        TubBites ten = of("tub 6 by 2;" + GET + numbered("apple a# at @ size 9 soft 0;", 10) + bobber('a', 0, 0, 5, 0));
+        due("all ten", ten.gone(1023), 10);
+        due("eleven", ten.gone(1024), -2);
+    }
+
+    @Says({"25: (an APPLE that is out, too)."})
+    private static void whatIsOutIsNotGone() {
+        TubBites t = of("tub 4 by 1;odds free 8;bite 0;" + apple('a', 0, 0) + "apple b at 1 0 size 1 soft 0;" + apple('c', 2, 0)
+            + bobber('a', 0, 0, 2, 0));
         due("got", t.go(0, 0, FREE), 1);
         due("gone(1)", t.gone(1), -2);
         due("eaten", t.go(0, 1, FREE), 0);
         due("gone(2)", t.gone(2), -2);
         due("gone(6)", t.gone(6), -2);
+        due("gone(5)", t.gone(5), -2);
         due("gone(4)", t.gone(4) != -2, true);
-        due("of a new object", new TubBites().gone(1), -2);
-        TubBites ten = of("tub 6 by 2;" + GET + numbered("apple a# at @ size 9 soft 0;", 10) + bobber('a', 0, 0, 5, 0));
-        due("all ten", ten.gone(1023), 10);
-        due("eleven", ten.gone(1024), -2);
     }
 
     @Says({"t3: PROVIDE for n TURNS (1 .. 60): the fewest APPLES of which some are in it still behind n TURNS;",
@@ -815,7 +855,7 @@ public final class SearchSentencesTests extends Sentences {
     // Promise 28
 
     @Says({"t3: WAVES: the fewest (6 at most) by which an APPLE is in a CELL;", "28: WAVES: how many; NONE if 6 are not enough;",
-        "28: Their sides lie there then (behind NONE, -2: nothing)."})
+        "28: Their sides lie there then"})
     private static void sixWavesAtMost() {
         TubBites t = of("tub 6 by 6;" + apple('a', 0, 0));
         for (int cell = 0; cell < 36; cell++) {
@@ -868,30 +908,45 @@ public final class SearchSentencesTests extends Sentences {
         lying(two, 0);
     }
 
-    @Says({"28: -2 if one can't be (an APPLE that is out, too)."})
+    @Says({"28: -2 if one can't be"})
     private static void noWavesOfNone() {
-        TubBites t = of("tub 3 by 2;" + GET + apple('a', 1, 1) + apple('b', 0, 0) + bobber('a', 1, 1, 0, 0));
+        TubBites t = of("tub 3 by 2;" + apple('a', 1, 1) + apple('b', 0, 0));
+        due("the last cell", t.waves(0, 2, 1), 1);
         for (int no : new int[] {-1, 2, 3, Integer.MIN_VALUE, Integer.MAX_VALUE}) {
-            t.order(1);
             due("waves(" + no + ", 0, 0)", t.waves(no, 0, 0), -2);
-            lying(t);
         }
         for (int x : new int[] {-1, 3, 4, Integer.MIN_VALUE, Integer.MAX_VALUE}) {
-            t.order(1);
             due("waves(0, " + x + ", 0)", t.waves(0, x, 0), -2);
-            lying(t);
         }
         for (int y : new int[] {-1, 2, 3, Integer.MIN_VALUE, Integer.MAX_VALUE}) {
-            t.order(1);
             due("waves(0, 0, " + y + ")", t.waves(0, 0, y), -2);
+        }
+        due("of a new object", new TubBites().waves(0, 0, 0), -2);
+    }
+
+    @Says({"28: (an APPLE that is out, too)."})
+    private static void noWavesOfWhatIsOut() {
+        TubBites t = of("tub 3 by 2;odds free 8;bite 0;" + apple('a', 1, 1) + "apple b at 2 1 size 1 soft 0;" + apple('c', 0, 0)
+            + bobber('a', 1, 1, 1, 0));
+        due("got", t.go(0, 0, FREE), 1);
+        due("waves(0, 1, 1)", t.waves(0, 1, 1), -2);
+        due("waves(0, 2, 1)", t.waves(0, 2, 1), -2);
+        due("eaten", t.go(0, 1, FREE), 0);
+        due("waves(1, 2, 1)", t.waves(1, 2, 1), -2);
+        due("the other one", t.waves(2, 0, 0), 0);
+        due("goes where they were", t.waves(2, 1, 1), 2);
+    }
+
+    @Says({"28: Their sides lie there then (behind NONE, -2: nothing)."})
+    private static void behindNoWavesNothingLies() {
+        TubBites t = of("tub 3 by 2;" + apple('a', 0, 0) + apple('b', 1, 0));
+        int[][] none = {{0, 2, 0, -1}, {0, 3, 0, -2}, {0, 0, 2, -2}, {2, 0, 0, -2}, {-1, 0, 0, -2}, {0, -1, 0, -2}, {0, 0, -1, -2}};
+        for (int[] row : none) {
+            due("waves(0, 1, 1)", t.waves(0, 1, 1), 2);
+            lying(t, 1, 2);
+            due("waves(" + row[0] + ", " + row[1] + ", " + row[2] + ")", t.waves(row[0], row[1], row[2]), row[3]);
             lying(t);
         }
-        due("the last cell", t.waves(0, 2, 1), 1);
-        t.go(0, 0, FREE);
-        due("out", t.waves(0, 2, 1), -2);
-        lying(t);
-        due("the other one", t.waves(1, 0, 0), 0);
-        due("of a new object", new TubBites().waves(0, 0, 0), -2);
     }
 
     // Promise 29
@@ -1019,8 +1074,8 @@ public final class SearchSentencesTests extends Sentences {
         coin(most, 9, 1, 10);
     }
 
-    @Says({"30: (0, 1 if it is out, or all coins are 0);"})
-    private static void noCoinInIt() {
+    @Says({"30: (0, 1 if it is out,"})
+    private static void noCoinInWhatIsOut() {
         TubBites t = of("tub 4 by 1;odds free 8;bite 0;apple a at 0 0 size 9 soft 0 coin 2;apple b at 1 0 size 1 soft 0 coin 3;"
             + "apple c at 2 0 size 9 soft 0 coin 0;apple d at 3 0 size 9 soft 0 coin 5;" + bobber('a', 0, 0, 5, 0));
         coin(t, 2, 0, 1);
@@ -1029,6 +1084,10 @@ public final class SearchSentencesTests extends Sentences {
         due("eaten", t.go(0, 1, FREE), 0);
         coin(t, 1, 0, 1);
         coin(t, 3, 1, 1);
+    }
+
+    @Says({"30: (0, 1 if", "30: or all coins are 0);"})
+    private static void allCoinsAreNought() {
         TubBites none = of("tub 2 by 1;" + GET + "apple a at 0 0 size 9 soft 0 coin 0;apple b at 1 0 size 9 soft 0 coin 0;" + bobber('a', 0, 0, 5, 0));
         coin(none, 0, 0, 1);
         coin(none, 1, 0, 1);

@@ -28,7 +28,7 @@ public final class SeenSentencesTests extends Sentences {
         due("chance(0)", t.chance(0), 9);
     }
 
-    @Says({"32: NONE, doing nothing, if one can't be", "32: or there are 30."})
+    @Says({"32: NONE, doing nothing, if one can't be"})
     private static void noPickOfNone() {
         TubBites t = of(SEEN);
         for (int bobber : beyond(0, 1)) {
@@ -301,12 +301,16 @@ public final class SeenSentencesTests extends Sentences {
         due("but for one", no.nearest(1, 0), 1);
     }
 
-    @Says({"27: NONE without RULES, or for another what."})
-    private static void noNearestOfNone() {
+    @Says({"27: or for another what."})
+    private static void anotherNearest() {
         TubBites t = of(SEEN);
         for (int what : beyond(0, 1)) {
             due("nearest(" + what + ", 0)", t.nearest(what, 0), -1);
         }
+    }
+
+    @Says({"27: NONE without RULES,"})
+    private static void noNearestWithoutRules() {
         TubBites none = of("tub 1 by 1;" + apple('a', 0, 0) + bobber('a', 0, 0, 0, 0));
         none.pick(0, 1, 0);
         due("nearest(0, 0)", none.nearest(0, 0), -1);

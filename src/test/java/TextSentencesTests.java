@@ -355,11 +355,21 @@ public final class TextSentencesTests extends Sentences {
         due("fault(1)", t.fault(1), 4);
     }
 
-    @Says({"5: (0: without; ahead of any, too)", "5: (NONE)"})
-    private static void noFault() {
+    @Says({"5: ahead of any, too)"})
+    private static void noFaultAheadOfAnyTub() {
         TubBites t = new TubBites();
-        due("fault(0) ahead of any", t.fault(0), 0);
-        due("fault(1) ahead of any", t.fault(1), -1);
+        due("fault(0)", t.fault(0), 0);
+        due("fault(1)", t.fault(1), -1);
+        tape(t, "$");
+        due("not yet read", t.fault(0), 0);
+        due("not yet read", t.fault(1), -1);
+    }
+
+    @Says({"5: (0: without;", "5: 1: its place (NONE)."})
+    private static void noFault() {
+        TubBites t = of(TUB);
+        due("fault(0) without", t.fault(0), 0);
+        due("fault(1) without", t.fault(1), -1);
         tape(t, "$");
         t.tub();
         due("fault(1)", t.fault(1), 0);
