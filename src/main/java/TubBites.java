@@ -976,15 +976,20 @@ public final class TubBites {
         }
 
         private boolean one(int others) {
-            if (lexer.sort == Lexer.W_NOT) {
-                if (others > MOST_OTHERS) {
-                    return fail(OUT_OF_PLACE);
-                }
-                lexer.next();
-                boolean fine = one(others + 1);
-                told.formulas.addOperator(Lexer.W_NOT);
-                return fine;
+            return lexer.sort == Lexer.W_NOT ? opposite(others) : comparison(others);
+        }
+
+        private boolean opposite(int others) {
+            if (others > MOST_OTHERS) {
+                return fail(OUT_OF_PLACE);
             }
+            lexer.next();
+            boolean fine = one(others + 1);
+            told.formulas.addOperator(Lexer.W_NOT);
+            return fine;
+        }
+
+        private boolean comparison(int others) {
             boolean fine = sum(others);
             int relation = lexer.sort;
             if (fine && (relation == '<' || relation == '>' || relation == '=')) {
@@ -1705,8 +1710,7 @@ public final class TubBites {
                 }
             }
             if (left >= BREATHING_SECONDS && here.breath[bobber] < game.told.breath[bobber]) {
-                game.takeBreath(nextLevel(depth), bobber);
-                int value = bestFrom(depth + 1, left - BREATHING_SECONDS);
+                int value = bestByBreathing(depth, left);
                 if (value > most) {
                     most = value;
                     chosen = BREATHING;
@@ -1727,6 +1731,11 @@ public final class TubBites {
             game.missBy(nextLevel(depth), bobber, tried, kind);
             long behindMissed = bestFrom(depth + 1, rest);
             return (int) ((odds * (WHOLE_APPLE + behindGot) + (100 - odds) * behindMissed) / 100);
+        }
+
+        private int bestByBreathing(int depth, int left) {
+            game.takeBreath(nextLevel(depth), bobber);
+            return bestFrom(depth + 1, left - BREATHING_SECONDS);
         }
 
         int fewestDrives(State now, int from, int to, int what) {
@@ -1755,16 +1764,18 @@ public final class TubBites {
                 return false;
             }
             for (int tried = 0; tried < game.told.apples; tried++) {
-                if (game.canTry(here, bobber, tried, FREE)) {
-                    State next = nextLevel(depth);
-                    game.missBy(next, bobber, tried, FREE);
-                    path[depth] = tried;
-                    if (isChanged(here, next, tried) && drivesWithin(depth + 1, left - 1)) {
-                        return true;
-                    }
+                path[depth] = tried;
+                if (game.canTry(here, bobber, tried, FREE) && drivesByMissing(depth, left, tried)) {
+                    return true;
                 }
             }
             return false;
+        }
+
+        private boolean drivesByMissing(int depth, int left, int tried) {
+            State next = nextLevel(depth);
+            game.missBy(next, bobber, tried, FREE);
+            return isChanged(level(depth), next, tried) && drivesWithin(depth + 1, left - 1);
         }
 
         private static boolean isChanged(State here, State next, int tried) {
@@ -1797,11 +1808,15 @@ public final class TubBites {
             }
             for (int side = 0; side < SIDES; side++) {
                 path[depth] = side;
-                if (game.rock(nextLevel(depth), side) > 0 && wavesWithin(depth + 1, left - 1)) {
+                if (wavesBySide(depth, left, side)) {
                     return true;
                 }
             }
             return false;
+        }
+
+        private boolean wavesBySide(int depth, int left, int side) {
+            return game.rock(nextLevel(depth), side) > 0 && wavesWithin(depth + 1, left - 1);
         }
     }
 
